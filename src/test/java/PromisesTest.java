@@ -493,6 +493,9 @@ public final class PromisesTest {
             due("planned: state " + no, x.planned(127, no, 0), BAD);
             due("planned: number " + no, x.planned(127, 0, no), BAD);
         }
+        x.action(5, 0, effect(0, 31));
+        planIs(x, 3, 1, 0, 5, 2);
+        due("planned: te 131 is not the next state's", x.planned(131, 0, 0), BAD);
         x.method(0, 0, 0);
         due("planned: of the empty plan", x.planned(end(0, 0), 0, 0), BAD);
     }
