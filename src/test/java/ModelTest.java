@@ -9,8 +9,10 @@ import java.util.TreeMap;
  */
 public final class ModelTest {
     private static final int RUNS = 400;
-    // Below the 512 calls for which an object is promised, with room for the longest turn.
-    private static final int CALLS = 450;
+    // All calls for which an object is promised. The longest turn rubs 8 actions, writes a plan of 16
+    // and asks 4 times; from where it has no room, the rest of the calls are questions one by one.
+    private static final int CALLS = 512;
+    private static final int LONGEST_TURN = 28;
     private static final int MOST_WAYS = 20000;
 
     /** One way: the state it ends in, and its plan. */
@@ -436,7 +438,9 @@ public final class ModelTest {
             calls = 0;
             while (calls < CALLS) {
                 int kind = pick(30);
-                if (calls < 60 || kind == 0) {
+                if (calls + LONGEST_TURN > CALLS) {
+                    ask(x, y);
+                } else if (calls < 60 || kind == 0) {
                     change(x, y);
                 } else if (kind < 6) {
                     list(x, y);
