@@ -916,6 +916,8 @@ public final class SentencesTest {
         due("drop(2)", x.drop(2), true);
         planIs(x, 2, 0, 1, 3, 4, 3);
         planIs(x, 3, 30, 31, 4, 3);
+        added(x, 2, 0, 0, steps(0, act(3)));
+        due(of("planned", 0, 0, 0), x.planned(0, 0, 0), 3);
     }
 
     private static void planOfSomeWay(Counted x) {
@@ -1021,6 +1023,8 @@ public final class SentencesTest {
         due("doable(28), where it can", x.doable(28), 13);
         due("drop(3)", x.drop(3), true);
         due("doable(28) without method 3", x.doable(28), 4);
+        given(x, 1, 0, effect(0, 31));
+        due("doable(2), where the only way ends in state 0", x.doable(2), 2);
     }
 
     private static void asManyWaysWithout(Counted x) {
@@ -1058,6 +1062,8 @@ public final class SentencesTest {
         due("drop(4)", x.drop(4), true);
         waysAre(x, 3, 0, 1, 1);
         waysAre(x, 2, 31, 1, 1);
+        // It works out in state 0 alone, and ends there.
+        added(x, 0, 0, condition(0, 31), 0);
         uselessAre(x);
     }
 
