@@ -2,7 +2,7 @@ import java.util.Arrays;
 import java.util.function.Consumer;
 
 /**
- * Each sentence of the document that names no boundary case, by a test of its own. Every test is run
+ * Sentences of the document that name no boundary case, each by a test of its own. Every test is run
  * three times: on a new object; on one that calls of every kind have left as a new one; and on one that
  * has been left so by so many calls that the test's last call is the 512th.
  */
